@@ -239,6 +239,10 @@ public final class PromisesTest {
         y.put(8, 8, true);
         y.put(1, 8, false);
         due("8 firm comes before short", y.leastTime(), 8);
+        LateJobAdmit z = new LateJobAdmit();
+        z.put(1, 0, false);
+        z.put(5, 10, false);
+        due("8 a shorter one that is late does not count", z.leastTime(), 5);
     }
 
     private static void promise9Affordable() {
