@@ -1,14 +1,25 @@
 import java.util.ArrayList;
+import java.util.HashSet;
 import java.util.List;
+import java.util.Set;
 
 /**
  * Long runs of calls, each answer against a model that takes the document's terms word by word:
  * a set is feasible iff some job can be the last of a list, the rest being feasible without it.
+ * The runs must have met each method after each other one and as the last call of an object.
  */
 public final class ModelTest {
     private static final int RUNS = 300;
     private static final int CALLS = 512;
 
+    private static final List<String> METHODS = List.of("put", "drop", "makeFirm", "jobs", "feasible",
+        "mostInTime", "leastTime", "affordable", "welcome", "elapse");
+    private static final List<String> ANSWERS = List.of("put 0", "put 9", "put FULL", "put BAD", "drop 0", "drop 9",
+        "drop BAD", "makeFirm true", "makeFirm false", "jobs 0", "jobs 10", "feasible true", "feasible false",
+        "mostInTime 0", "mostInTime 10", "mostInTime NONE", "leastTime 0", "leastTime NONE", "affordable true",
+        "affordable false", "welcome true", "welcome false", "elapse 0", "elapse 10", "elapse BAD");
+
+    private static final Set<String> met = new HashSet<>();
     private static int wrong = 0;
     private static long seed;
 
@@ -189,6 +200,7 @@ public final class ModelTest {
             seed = 7919L * run + 1;
             run(run);
         }
+        metAllThatIsDue();
         System.out.println(wrong == 0 ? "all answers are as due" : wrong + " answers are not as due");
         if (wrong != 0) {
             System.exit(1);
@@ -204,32 +216,77 @@ public final class ModelTest {
         int latest = 1 + below(200);
         int firmPercent = below(40);
         int drops = below(4);
-        for (int call = 0; call < CALLS; call++) {
+        String before = "new";
+        for (int call = 1; call <= CALLS; call++) {
             boolean firm = below(100) < firmPercent;
             int length = sometimesWrong(1 + below(longest));
             int deadline = sometimesWrong(below(latest + 1));
             int place = sometimesWrong(below(10));
-            String at = "run " + run + " call " + call + ": ";
-            switch (below(12 + drops)) {
-                case 0, 1, 2 -> due(at + "put(" + length + ", " + deadline + ", " + firm + ")",
-                    x.put(length, deadline, firm), model.put(length, deadline, firm));
-                case 3 -> due(at + "makeFirm(" + place + ", " + firm + ")",
-                    x.makeFirm(place, firm), model.makeFirm(place, firm));
-                case 4 -> due(at + "jobs()", x.jobs(), model.jobs());
-                case 5, 6 -> {
+            String method = METHODS.get(methodOf(below(12 + drops)));
+            String at = "run " + run + " call " + call + ": " + method;
+            switch (method) {
+                case "put" -> due(at + "(" + length + ", " + deadline + ", " + firm + ")",
+                    x.put(length, deadline, firm), meet(method, model.put(length, deadline, firm)));
+                case "drop" -> due(at + "(" + place + ")", x.drop(place), meet(method, model.drop(place)));
+                case "makeFirm" -> due(at + "(" + place + ", " + firm + ")",
+                    x.makeFirm(place, firm), meet(method, model.makeFirm(place, firm)));
+                case "jobs" -> due(at + "()", x.jobs(), meet(method, model.jobs()));
+                case "feasible" -> {
                     int set = sometimesWrong(below(1024) & (below(2) == 0 ? 1023 : below(1024)));
-                    due(at + "feasible(" + set + ")", x.feasible(set), model.feasible(set));
+                    due(at + "(" + set + ")", x.feasible(set), meet(method, model.feasible(set)));
                 }
-                case 7 -> due(at + "mostInTime()", x.mostInTime(), model.mostInTime());
-                case 8 -> due(at + "leastTime()", x.leastTime(), model.leastTime());
-                case 9 -> due(at + "affordable(" + place + ")", x.affordable(place), model.affordable(place));
-                case 10 -> due(at + "welcome(" + length + ", " + deadline + ")",
-                    x.welcome(length, deadline), model.welcome(length, deadline));
-                case 11 -> {
+                case "mostInTime" -> due(at + "()", x.mostInTime(), meet(method, model.mostInTime()));
+                case "leastTime" -> due(at + "()", x.leastTime(), meet(method, model.leastTime()));
+                case "affordable" -> due(at + "(" + place + ")",
+                    x.affordable(place), meet(method, model.affordable(place)));
+                case "welcome" -> due(at + "(" + length + ", " + deadline + ")",
+                    x.welcome(length, deadline), meet(method, model.welcome(length, deadline)));
+                default -> {
                     int t = sometimesWrong(below(10) == 0 ? below(latest + 1) : below(4));
-                    due(at + "elapse(" + t + ")", x.elapse(t), model.elapse(t));
+                    due(at + "(" + t + ")", x.elapse(t), meet(method, model.elapse(t)));
                 }
-                default -> due(at + "drop(" + place + ")", x.drop(place), model.drop(place));
+            }
+            met.add(before + " then " + method);
+            before = method;
+        }
+        met.add(before + " last");
+    }
+
+    /** Puts and questions of feasible come more often than the rest, and drops as often as the run has it. */
+    private static int methodOf(int number) {
+        int[] methods = {0, 0, 0, 2, 3, 4, 4, 5, 6, 7, 8, 9};
+        return number < methods.length ? methods[number] : 1;
+    }
+
+    private static int meet(String method, int answer) {
+        String word = switch (answer) {
+            case LateJobAdmit.BAD -> "BAD";
+            case LateJobAdmit.FULL -> "FULL";
+            case LateJobAdmit.NONE -> "NONE";
+            default -> String.valueOf(answer);
+        };
+        met.add(method + " " + word);
+        return answer;
+    }
+
+    private static boolean meet(String method, boolean answer) {
+        met.add(method + " " + answer);
+        return answer;
+    }
+
+    private static void metAllThatIsDue() {
+        List<String> due = new ArrayList<>(ANSWERS);
+        for (String method : METHODS) {
+            due.add("new then " + method);
+            due.add(method + " last");
+            for (String next : METHODS) {
+                due.add(method + " then " + next);
+            }
+        }
+        for (String what : due) {
+            if (!met.contains(what)) {
+                wrong++;
+                System.out.println("the runs never met: " + what);
             }
         }
     }
